@@ -447,7 +447,7 @@ public final class LieAlgebra {
 
         /** Makes this the subspace 0 of a space of the given dimension. */
         void begin(int prime, int dimension) {
-            p = Math.max(2, prime);
+            p = prime;
             width = Math.max(0, Math.min(dimension, columns));
             size = 0;
             Arrays.fill(cells, 0);
@@ -465,7 +465,7 @@ public final class LieAlgebra {
         /** Adds x to a coordinate of the vector that comes in. */
         void addIncoming(int column, int x) {
             int index = columns * columns + column;
-            if (column >= 0 && column < width && index < cells.length) {
+            if (column >= 0 && column < width && index < cells.length && p > 1) {
                 cells[index] = Math.floorMod(cells[index] + x, p);
             }
         }
@@ -497,8 +497,11 @@ public final class LieAlgebra {
 
         /** Adds a multiple of one row to another, or to itself; the factor is 0 or more. */
         private void addRow(int to, int from, int factor) {
+            if (p < 2 || to < 0 || to > columns || from < 0 || from > columns) {
+                return;
+            }
             int f = factor % p;
-            if (f == 0 || to < 0 || to > columns || from < 0 || from > columns) {
+            if (f == 0) {
                 return;
             }
             int target = to * columns;

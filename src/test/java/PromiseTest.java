@@ -679,6 +679,21 @@ public final class PromiseTest {
         due("25 heisenberg modulo 2", heisenberg(2).derivationDimension(), 6);
         due("25 two", table(5, 2, "[0,1]=e1;").derivationDimension(), 2);
         due("25 chain", chain(5).derivationDimension(), 7);
+        LieAlgebra x = simple();
+        LieAlgebra y = chain(7);
+        for (int c = 1; c <= 4; c++) {
+            x.addBasis(0, 1, c);
+            x.addBasis(1, 2, c);
+            x.addBasis(2, 0, c);
+            y.addBasis(0, 1, c);
+            y.addBasis(1, 2, c);
+            y.addBasis(3, 0, c);
+            due("25 simple, in another basis", x.derivationDimension(), 3);
+            due("25 chain, in another basis", y.derivationDimension(), 7);
+        }
+        LieAlgebra z = table(7, 3, "[0,1]=2e1;[0,2]=-2e2;[1,2]=e1;");
+        due("25 a table that is not valid", z.jacobiFailure(), 12);
+        due("25 e1 to e1, and e2 to e1 with e0 to -4e1", z.derivationDimension(), 2);
     }
 
     private void promise26() {
