@@ -56,55 +56,6 @@ public final class PromiseTest {
         check.due(call, got, want);
     }
 
-    // ---- tables to ask about
-
-    private static void write(LieAlgebra x, String text) {
-        for (int k = 0; k < text.length(); k++) {
-            x.append(text.charAt(k));
-        }
-    }
-
-    private static int load(LieAlgebra x, String text) {
-        x.clearText();
-        write(x, text);
-        return x.loadText();
-    }
-
-    private static LieAlgebra table(int p, int n, String text) {
-        LieAlgebra x = new LieAlgebra();
-        x.configure(p, n);
-        if (load(x, text) < 0) {
-            throw new IllegalStateException("a test's own text is wrong: " + text);
-        }
-        return x;
-    }
-
-    private static LieAlgebra abelian(int p, int n) {
-        LieAlgebra x = new LieAlgebra();
-        x.configure(p, n);
-        return x;
-    }
-
-    /** Three vectors, the third spanning the center. */
-    private static LieAlgebra heisenberg(int p) {
-        return table(p, 3, "[0,1]=e2;");
-    }
-
-    /** h, e, f with [h, e] = 2e, [h, f] = -2f, [e, f] = h, modulo 5. */
-    private static LieAlgebra simple() {
-        return table(5, 3, "[0,1]=2e1;[0,2]=-2e2;[1,2]=e0;");
-    }
-
-    /** Solvable with levels 3, 2, 0 and a lower central series that stays at 2. */
-    private static LieAlgebra solvable() {
-        return table(5, 3, "[0,1]=e1;[0,2]=2e2;");
-    }
-
-    /** Four vectors in a chain: nilpotent with levels 4, 2, 1, 0. */
-    private static LieAlgebra chain(int p) {
-        return table(p, 4, "[0,1]=e2;[0,2]=e3;");
-    }
-
     // ---- promises
 
     private void constants() {
@@ -165,7 +116,7 @@ public final class PromiseTest {
         due("2 errors keep brackets", x.bracket(1, 7), 5);
         due("2 the same again", x.configure(7, 3), 343);
         due("2 brackets are 0", x.bracket(1, 7), 0);
-        write(x, "[0,1]");
+        Tables.write(x, "[0,1]");
         x.configure(2, 2);
         due("2 the text stays", x.clearText(), 5);
         x.save(0);
@@ -194,10 +145,10 @@ public final class PromiseTest {
         due("3 value above", x.setBracket(0, 1, 27), BAD);
         due("3 value far", x.setBracket(0, 1, MOST), BAD);
         due("3 errors change nothing", x.bracket(9, 1), 26);
-        LieAlgebra line = abelian(7, 1);
+        LieAlgebra line = Tables.abelian(7, 1);
         due("3 n = 1", line.setBracket(0, 0, 0), BAD);
         due("3 n = 1, j = 1", line.setBracket(0, 1, 0), BAD);
-        LieAlgebra two = abelian(2, 5);
+        LieAlgebra two = Tables.abelian(2, 5);
         due("3 modulo 2", two.setBracket(4, 3, 31), 0);
         due("3 is its own negative", two.bracket(8, 16), 31);
     }
@@ -223,37 +174,37 @@ public final class PromiseTest {
     private void promise5() {
         LieAlgebra x = new LieAlgebra();
         due("5 empty", x.clearText(), 0);
-        write(x, "[0,1]=e2;");
+        Tables.write(x, "[0,1]=e2;");
         due("5 nine", x.clearText(), 9);
         due("5 empty again", x.clearText(), 0);
         due("5 nothing to read", x.loadText(), -10);
         due("5 undo is not touched", x.undo(), STATE);
-        write(x, "[0,1]=e2;");
+        Tables.write(x, "[0,1]=e2;");
         due("5 written anew", x.loadText(), 1);
     }
 
     private void promise6() {
         LieAlgebra x = new LieAlgebra();
-        due("6 one item", load(x, "[0,1]=e2;"), 1);
+        due("6 one item", Tables.load(x, "[0,1]=e2;"), 1);
         due("6 the text is empty", x.clearText(), 0);
         due("6 bracket", x.bracket(1, 3), 9);
         due("6 turned round", x.bracket(3, 1), 18);
-        due("6 another item", load(x, "[2,0]=2e0+e1;"), 1);
+        due("6 another item", Tables.load(x, "[2,0]=2e0+e1;"), 1);
         due("6 other brackets stay", x.bracket(1, 3), 9);
         due("6 as it is written", x.bracket(9, 1), 5);
         due("6 negative", x.bracket(1, 9), 7);
-        due("6 three items", load(x, "[0,1]=0;[1,2]=-e0;[0,2]=-2e1-e2+e0;"), 3);
+        due("6 three items", Tables.load(x, "[0,1]=0;[1,2]=-e0;[0,2]=-2e1-e2+e0;"), 3);
         due("6 a zero", x.bracket(1, 3), 0);
         due("6 minus", x.bracket(3, 9), 2);
         due("6 minus and plus", x.bracket(1, 9), 1 + 3 + 18);
-        due("6 terms are added", load(x, "[0,1]=e0+e0+e0+2e1+2e1-e2-e2;"), 1);
+        due("6 terms are added", Tables.load(x, "[0,1]=e0+e0+e0+2e1+2e1-e2-e2;"), 1);
         due("6 their sum", x.bracket(1, 3), 3 + 9);
-        due("6 sum 0", load(x, "[0,1]=e0-e0;"), 1);
+        due("6 sum 0", Tables.load(x, "[0,1]=e0-e0;"), 1);
         due("6 is 0", x.bracket(1, 3), 0);
-        due("6 spaces", load(x, "  [ 1 , 0 ] = - 2 e 1 + 1 e 2 ; [0 ,2]=0 ;  "), 2);
+        due("6 spaces", Tables.load(x, "  [ 1 , 0 ] = - 2 e 1 + 1 e 2 ; [0 ,2]=0 ;  "), 2);
         due("6 read over spaces", x.bracket(3, 1), 3 + 9);
-        LieAlgebra five = abelian(5, 5);
-        due("6 all pairs", load(five, "[0,1]=e0;[0,2]=e0;[0,3]=e0;[0,4]=e0;[1,2]=e0;"
+        LieAlgebra five = Tables.abelian(5, 5);
+        due("6 all pairs", Tables.load(five, "[0,1]=e0;[0,2]=e0;[0,3]=e0;[0,4]=e0;[1,2]=e0;"
                 + "[1,3]=e0;[1,4]=e0;[2,3]=e0;[2,4]=e0;[4,3]=4e4;"), 10);
         due("6 the last pair", five.bracket(125, 625), 625);
         five.clearText();
@@ -263,14 +214,14 @@ public final class PromiseTest {
         }
         longest.append(';');
         due("6 120 signs", longest.length(), 120);
-        due("6 longest text", load(five, longest.toString()), 1);
+        due("6 longest text", Tables.load(five, longest.toString()), 1);
         due("6 38 terms", five.bracket(1, 5), 3);
-        due("6 after an error, mended", load(x, "[0,1]=e2"), -18);
+        due("6 after an error, mended", Tables.load(x, "[0,1]=e2"), -18);
         x.append(';');
         due("6 goes on", x.loadText(), 1);
         due("6 it was read", x.bracket(1, 3), 9);
         LieAlgebra small = new LieAlgebra();
-        write(small, "[0,3]=4e3;");
+        Tables.write(small, "[0,3]=4e3;");
         due("6 too large an index", small.loadText(), -13);
         small.configure(5, 4);
         due("6 with the new p and n", small.loadText(), 1);
@@ -278,8 +229,8 @@ public final class PromiseTest {
     }
 
     private void error(int p, int n, String text, int position) {
-        LieAlgebra x = abelian(p, n);
-        due("6 (" + p + ", " + n + ") \"" + text + "\"", load(x, text), -10 - position);
+        LieAlgebra x = Tables.abelian(p, n);
+        due("6 (" + p + ", " + n + ") \"" + text + "\"", Tables.load(x, text), -10 - position);
         due("6 kept \"" + text + "\"", x.clearText(), text.length());
     }
 
@@ -360,16 +311,16 @@ public final class PromiseTest {
     }
 
     private void promise6KeepsAllOnError() {
-        LieAlgebra x = heisenberg(3);
+        LieAlgebra x = Tables.heisenberg(3);
         x.restore(0);
         x.save(0);
         x.restore(0);
-        due("6 error in the second item", load(x, "[0,1]=e0;[0,2]=e1;[1,2]=e9;"), -10 - 25);
+        due("6 error in the second item", Tables.load(x, "[0,1]=e0;[0,2]=e1;[1,2]=e9;"), -10 - 25);
         due("6 first item not set", x.bracket(1, 3), 9);
         due("6 second item not set", x.bracket(1, 9), 0);
         due("6 nothing saved", x.undo(), STATE);
         due("6 kept text", x.clearText(), 27);
-        due("6 a good text", load(x, "[0,1]=e0;"), 1);
+        due("6 a good text", Tables.load(x, "[0,1]=e0;"), 1);
         due("6 saved once", x.undo(), 0);
         due("6 as before", x.bracket(1, 3), 9);
         due("6 undo leaves the text", x.clearText(), 0);
@@ -395,7 +346,7 @@ public final class PromiseTest {
     }
 
     private void promise9() {
-        LieAlgebra x = simple();
+        LieAlgebra x = Tables.simple();
         due("9 [h, e]", x.bracket(1, 5), 10);
         due("9 [e, h]", x.bracket(5, 1), 15);
         due("9 [e, f]", x.bracket(5, 25), 1);
@@ -410,29 +361,29 @@ public final class PromiseTest {
         due("9 v below", x.bracket(0, -1), BAD);
         due("9 v above", x.bracket(0, 125), BAD);
         due("9 far", x.bracket(LEAST, MOST), BAD);
-        LieAlgebra large = table(7, 5, "[0,4]=6e4+5e3+e0;");
+        LieAlgebra large = Tables.table(7, 5, "[0,4]=6e4+5e3+e0;");
         due("9 large", large.bracket(1, 2401), 1 + 5 * 343 + 6 * 2401);
         due("9 large, times 6", large.bracket(6, 2401), 6 + 2 * 343 + 2401);
         due("9 last vector", large.bracket(16806, 2401), large.bracket(6, 2401));
         due("9 no vector", large.bracket(16807, 1), BAD);
-        due("9 n = 1", abelian(2, 1).bracket(1, 1), 0);
+        due("9 n = 1", Tables.abelian(2, 1).bracket(1, 1), 0);
     }
 
     private void promise10() {
         due("10 no brackets", new LieAlgebra().jacobiFailure(), NONE);
-        due("10 simple", simple().jacobiFailure(), NONE);
-        due("10 n = 1", abelian(3, 1).jacobiFailure(), NONE);
-        due("10 n = 2", table(3, 2, "[0,1]=e0+e1;").jacobiFailure(), NONE);
-        due("10 012", table(3, 3, "[0,1]=e0;[1,2]=e1;[0,2]=e2;").jacobiFailure(), 12);
-        due("10 013 before 123", table(3, 4, "[0,1]=e2;[2,3]=e0;[1,3]=0;").jacobiFailure(), 13);
-        due("10 234", table(3, 5, "[2,3]=e2;[3,4]=e3;[2,4]=e4;").jacobiFailure(), 234);
-        due("10 134", table(2, 5, "[1,3]=e1;[3,4]=e3;[1,4]=e4;").jacobiFailure(), 134);
+        due("10 simple", Tables.simple().jacobiFailure(), NONE);
+        due("10 n = 1", Tables.abelian(3, 1).jacobiFailure(), NONE);
+        due("10 n = 2", Tables.table(3, 2, "[0,1]=e0+e1;").jacobiFailure(), NONE);
+        due("10 012", Tables.table(3, 3, "[0,1]=e0;[1,2]=e1;[0,2]=e2;").jacobiFailure(), 12);
+        due("10 013 before 123", Tables.table(3, 4, "[0,1]=e2;[2,3]=e0;[1,3]=0;").jacobiFailure(), 13);
+        due("10 234", Tables.table(3, 5, "[2,3]=e2;[3,4]=e3;[2,4]=e4;").jacobiFailure(), 234);
+        due("10 134", Tables.table(2, 5, "[1,3]=e1;[3,4]=e3;[1,4]=e4;").jacobiFailure(), 134);
         due("10 a sum of three that is 0 modulo 3",
-                table(3, 5, "[0,1]=e4;[1,2]=e0;[0,2]=-e1;[3,4]=e4;").jacobiFailure(), 13);
+                Tables.table(3, 5, "[0,1]=e4;[1,2]=e0;[0,2]=-e1;[3,4]=e4;").jacobiFailure(), 13);
     }
 
     private void promise11() {
-        LieAlgebra x = solvable();
+        LieAlgebra x = Tables.solvable();
         due("11 level 0", x.derivedDimension(0), 3);
         due("11 level 1", x.derivedDimension(1), 2);
         due("11 level 2", x.derivedDimension(2), 0);
@@ -441,20 +392,20 @@ public final class PromiseTest {
         due("11 above", x.derivedDimension(10), BAD);
         due("11 far below", x.derivedDimension(LEAST), BAD);
         due("11 far above", x.derivedDimension(MOST), BAD);
-        due("11 simple", simple().derivedDimension(9), 3);
-        due("11 chain", chain(2).derivedDimension(1), 2);
-        due("11 chain, 2", chain(2).derivedDimension(2), 0);
-        LieAlgebra long4 = table(5, 4, "[0,1]=e1;[0,2]=e2;[0,3]=2e3;[1,2]=e3;");
+        due("11 simple", Tables.simple().derivedDimension(9), 3);
+        due("11 chain", Tables.chain(2).derivedDimension(1), 2);
+        due("11 chain, 2", Tables.chain(2).derivedDimension(2), 0);
+        LieAlgebra long4 = Tables.table(5, 4, "[0,1]=e1;[0,2]=e2;[0,3]=2e3;[1,2]=e3;");
         due("11 valid", long4.jacobiFailure(), NONE);
         due("11 level 1 of 4", long4.derivedDimension(1), 3);
         due("11 level 2 of 4", long4.derivedDimension(2), 1);
         due("11 level 3 of 4", long4.derivedDimension(3), 0);
-        due("11 abelian", abelian(7, 5).derivedDimension(0), 5);
-        due("11 abelian, 1", abelian(7, 5).derivedDimension(1), 0);
+        due("11 abelian", Tables.abelian(7, 5).derivedDimension(0), 5);
+        due("11 abelian, 1", Tables.abelian(7, 5).derivedDimension(1), 0);
     }
 
     private void promise12() {
-        LieAlgebra x = chain(3);
+        LieAlgebra x = Tables.chain(3);
         due("12 level 0", x.lowerCentralDimension(0), 4);
         due("12 level 1", x.lowerCentralDimension(1), 2);
         due("12 level 2", x.lowerCentralDimension(2), 1);
@@ -463,15 +414,15 @@ public final class PromiseTest {
         due("12 below", x.lowerCentralDimension(-1), BAD);
         due("12 above", x.lowerCentralDimension(10), BAD);
         due("12 far", x.lowerCentralDimension(LEAST), BAD);
-        due("12 solvable stays", solvable().lowerCentralDimension(9), 2);
-        LieAlgebra longest = table(2, 5, "[0,1]=e2;[0,2]=e3;[0,3]=e4;");
+        due("12 solvable stays", Tables.solvable().lowerCentralDimension(9), 2);
+        LieAlgebra longest = Tables.table(2, 5, "[0,1]=e2;[0,2]=e3;[0,3]=e4;");
         for (int level = 1; level <= 4; level++) {
             due("12 longest", longest.lowerCentralDimension(level), 4 - level);
         }
     }
 
     private void promise13() {
-        LieAlgebra x = chain(5);
+        LieAlgebra x = Tables.chain(5);
         due("13 e0", x.derivedVector(0, 0), 1);
         due("13 e3", x.derivedVector(0, 3), 125);
         due("13 past the whole space", x.derivedVector(0, 4), NONE);
@@ -484,44 +435,44 @@ public final class PromiseTest {
         due("13 level below", x.derivedVector(-1, 0), BAD);
         due("13 level above", x.derivedVector(10, 0), BAD);
         due("13 level above, no vector", x.derivedVector(10, 9), BAD);
-        LieAlgebra y = table(5, 4, "[0,1]=2e1+4e2+e3;[0,2]=3e2+e3;");
+        LieAlgebra y = Tables.table(5, 4, "[0,1]=2e1+4e2+e3;[0,2]=3e2+e3;");
         due("13 reduced, leading 1", y.derivedVector(1, 0), 5 + 4 * 125);
         due("13 reduced, second", y.derivedVector(1, 1), 25 + 2 * 125);
         due("13 reduced, third", y.derivedVector(1, 2), NONE);
     }
 
     private void promise14() {
-        due("14 simple", simple().kind(), 0);
-        due("14 solvable", solvable().kind(), 1);
-        due("14 nilpotent", heisenberg(7).kind(), 2);
-        due("14 abelian", abelian(2, 5).kind(), 2);
-        due("14 n = 1", abelian(2, 1).kind(), 2);
-        due("14 the longest nilpotent", table(3, 5, "[0,1]=e2;[0,2]=e3;[0,3]=e4;").kind(), 2);
-        due("14 simple modulo 2 is nilpotent", table(2, 3, "[1,2]=e0;").kind(), 2);
-        due("14 simple and one more", table(3, 5, "[0,1]=e2;[1,2]=e0;[2,0]=e1;[3,4]=e4;").kind(), 0);
-        due("14 a table that is not valid", table(3, 3, "[0,1]=e0;[1,2]=e1;[0,2]=e2;").kind(), 0);
+        due("14 simple", Tables.simple().kind(), 0);
+        due("14 solvable", Tables.solvable().kind(), 1);
+        due("14 nilpotent", Tables.heisenberg(7).kind(), 2);
+        due("14 abelian", Tables.abelian(2, 5).kind(), 2);
+        due("14 n = 1", Tables.abelian(2, 1).kind(), 2);
+        due("14 the longest nilpotent", Tables.table(3, 5, "[0,1]=e2;[0,2]=e3;[0,3]=e4;").kind(), 2);
+        due("14 simple modulo 2 is nilpotent", Tables.table(2, 3, "[1,2]=e0;").kind(), 2);
+        due("14 simple and one more", Tables.table(3, 5, "[0,1]=e2;[1,2]=e0;[2,0]=e1;[3,4]=e4;").kind(), 0);
+        due("14 a table that is not valid", Tables.table(3, 3, "[0,1]=e0;[1,2]=e1;[0,2]=e2;").kind(), 0);
     }
 
     private void promise15() {
-        due("15 heisenberg", heisenberg(2).centerDimension(), 1);
-        due("15 simple", simple().centerDimension(), 0);
-        due("15 abelian", abelian(7, 5).centerDimension(), 5);
-        due("15 chain", chain(3).centerDimension(), 1);
-        due("15 two", table(3, 5, "[0,1]=e2+e3;").centerDimension(), 3);
-        due("15 n = 1", abelian(5, 1).centerDimension(), 1);
+        due("15 heisenberg", Tables.heisenberg(2).centerDimension(), 1);
+        due("15 simple", Tables.simple().centerDimension(), 0);
+        due("15 abelian", Tables.abelian(7, 5).centerDimension(), 5);
+        due("15 chain", Tables.chain(3).centerDimension(), 1);
+        due("15 two", Tables.table(3, 5, "[0,1]=e2+e3;").centerDimension(), 3);
+        due("15 n = 1", Tables.abelian(5, 1).centerDimension(), 1);
     }
 
     private void promise16() {
-        LieAlgebra x = table(5, 3, "[0,1]=e0;[2,1]=2e0;");
+        LieAlgebra x = Tables.table(5, 3, "[0,1]=e0;[2,1]=2e0;");
         due("16 one", x.centerDimension(), 1);
         due("16 leading coordinate 1", x.centerVector(0), 1 + 2 * 25);
         due("16 past the end", x.centerVector(1), NONE);
         due("16 far", x.centerVector(MOST), NONE);
         due("16 below", x.centerVector(-1), BAD);
         due("16 far below", x.centerVector(LEAST), BAD);
-        due("16 empty", simple().centerVector(0), NONE);
-        due("16 empty, below", simple().centerVector(-1), BAD);
-        LieAlgebra y = table(3, 5, "[0,1]=e4;[0,2]=e4;[1,3]=e4;[2,3]=e4;");
+        due("16 empty", Tables.simple().centerVector(0), NONE);
+        due("16 empty, below", Tables.simple().centerVector(-1), BAD);
+        LieAlgebra y = Tables.table(3, 5, "[0,1]=e4;[0,2]=e4;[1,3]=e4;[2,3]=e4;");
         due("16 two more", y.centerDimension(), 3);
         due("16 e0 and e3", y.centerVector(0), 1 + 27);
         due("16 e1 and e2", y.centerVector(1), 3 + 2 * 9);
@@ -530,7 +481,7 @@ public final class PromiseTest {
     }
 
     private void promise17() {
-        LieAlgebra x = heisenberg(5);
+        LieAlgebra x = Tables.heisenberg(5);
         due("17 of 0", x.centralizerDimension(0), 3);
         due("17 of e0", x.centralizerDimension(1), 2);
         due("17 of e2", x.centralizerDimension(25), 3);
@@ -538,13 +489,13 @@ public final class PromiseTest {
         due("17 below", x.centralizerDimension(-1), BAD);
         due("17 above", x.centralizerDimension(125), BAD);
         due("17 far", x.centralizerDimension(LEAST), BAD);
-        due("17 simple", simple().centralizerDimension(5), 1);
-        due("17 chain, e0", chain(2).centralizerDimension(1), 2);
-        due("17 chain, e1", chain(2).centralizerDimension(2), 3);
+        due("17 simple", Tables.simple().centralizerDimension(5), 1);
+        due("17 chain, e0", Tables.chain(2).centralizerDimension(1), 2);
+        due("17 chain, e1", Tables.chain(2).centralizerDimension(2), 3);
     }
 
     private void promise18() {
-        LieAlgebra x = chain(3);
+        LieAlgebra x = Tables.chain(3);
         due("18 of 0", x.idealDimension(0), 0);
         due("18 of e0", x.idealDimension(1), 3);
         due("18 of e1", x.idealDimension(3), 3);
@@ -553,13 +504,13 @@ public final class PromiseTest {
         due("18 below", x.idealDimension(-1), BAD);
         due("18 above", x.idealDimension(81), BAD);
         due("18 far", x.idealDimension(MOST), BAD);
-        due("18 simple", simple().idealDimension(7), 3);
-        due("18 grows in several rounds", table(2, 5, "[0,1]=e2;[0,2]=e3;[0,3]=e4;").idealDimension(2), 4);
-        due("18 n = 1", abelian(3, 1).idealDimension(2), 1);
+        due("18 simple", Tables.simple().idealDimension(7), 3);
+        due("18 grows in several rounds", Tables.table(2, 5, "[0,1]=e2;[0,2]=e3;[0,3]=e4;").idealDimension(2), 4);
+        due("18 n = 1", Tables.abelian(3, 1).idealDimension(2), 1);
     }
 
     private void promise19() {
-        LieAlgebra x = chain(3);
+        LieAlgebra x = Tables.chain(3);
         due("19 of 0 and 0", x.subalgebraDimension(0, 0), 0);
         due("19 of one", x.subalgebraDimension(1, 1), 1);
         due("19 of one, times 2", x.subalgebraDimension(1, 2), 1);
@@ -571,19 +522,19 @@ public final class PromiseTest {
         due("19 u above", x.subalgebraDimension(81, 0), BAD);
         due("19 v below", x.subalgebraDimension(0, -1), BAD);
         due("19 v above", x.subalgebraDimension(0, 81), BAD);
-        due("19 simple, h and e", simple().subalgebraDimension(1, 5), 2);
-        due("19 simple, e and f", simple().subalgebraDimension(5, 25), 3);
-        due("19 not an ideal", heisenberg(3).subalgebraDimension(1, 0), 1);
-        due("19 n = 1", abelian(2, 1).subalgebraDimension(1, 1), 1);
+        due("19 simple, h and e", Tables.simple().subalgebraDimension(1, 5), 2);
+        due("19 simple, e and f", Tables.simple().subalgebraDimension(5, 25), 3);
+        due("19 not an ideal", Tables.heisenberg(3).subalgebraDimension(1, 0), 1);
+        due("19 n = 1", Tables.abelian(2, 1).subalgebraDimension(1, 1), 1);
     }
 
     private void promise20() {
-        LieAlgebra x = chain(5);
+        LieAlgebra x = Tables.chain(5);
         int[] basis = {1, 25, 125, NONE};
         for (int index = 0; index < 4; index++) {
             due("20 reduced by [u, v] = 3e3", x.subalgebraVector(1 + 2 * 25, 3 * 25 + 125, index), basis[index]);
         }
-        LieAlgebra y = abelian(5, 4);
+        LieAlgebra y = Tables.abelian(5, 4);
         due("20 two vectors, 0", y.subalgebraVector(2 + 5 + 25, 4 + 2 * 5 + 3 * 125, 0), 1 + 3 * 5 + 2 * 125);
         due("20 two vectors, 1", y.subalgebraVector(2 + 5 + 25, 4 + 2 * 5 + 3 * 125, 1), 25 + 125);
         due("20 two vectors, 2", y.subalgebraVector(2 + 5 + 25, 4 + 2 * 5 + 3 * 125, 2), NONE);
@@ -600,7 +551,7 @@ public final class PromiseTest {
     }
 
     private void promise21() {
-        LieAlgebra x = simple();
+        LieAlgebra x = Tables.simple();
         int[][] adh = {{0, 0, 0}, {0, 2, 0}, {0, 0, 3}};
         int[][] ade = {{0, 0, 1}, {3, 0, 0}, {0, 0, 0}};
         int[][] both = {{0, 0, 4}, {2, 1, 0}, {0, 0, 4}};
@@ -619,12 +570,12 @@ public final class PromiseTest {
         due("21 column below", x.adjointEntry(1, 0, -1), BAD);
         due("21 column above", x.adjointEntry(1, 0, 3), BAD);
         due("21 far", x.adjointEntry(1, LEAST, MOST), BAD);
-        due("21 n = 1", abelian(7, 1).adjointEntry(6, 0, 0), 0);
-        due("21 n = 1, row 1", abelian(7, 1).adjointEntry(6, 1, 0), BAD);
+        due("21 n = 1", Tables.abelian(7, 1).adjointEntry(6, 0, 0), 0);
+        due("21 n = 1, row 1", Tables.abelian(7, 1).adjointEntry(6, 1, 0), BAD);
     }
 
     private void promise22() {
-        LieAlgebra x = table(7, 5, "[0,1]=e2;[0,2]=e3;[0,3]=e4;");
+        LieAlgebra x = Tables.table(7, 5, "[0,1]=e2;[0,2]=e3;[0,3]=e4;");
         due("22 of 0", x.nilpotencyIndex(0), 1);
         due("22 of e0", x.nilpotencyIndex(1), 4);
         due("22 of e1", x.nilpotencyIndex(7), 2);
@@ -632,19 +583,19 @@ public final class PromiseTest {
         due("22 below", x.nilpotencyIndex(-1), BAD);
         due("22 above", x.nilpotencyIndex(16807), BAD);
         due("22 far", x.nilpotencyIndex(MOST), BAD);
-        due("22 not nilpotent", simple().nilpotencyIndex(1), NONE);
-        due("22 nilpotent in a simple one", simple().nilpotencyIndex(5), 3);
-        LieAlgebra longest = table(3, 5, "[0,1]=e2;[0,2]=e3;[0,3]=e4;[0,4]=0;");
+        due("22 not nilpotent", Tables.simple().nilpotencyIndex(1), NONE);
+        due("22 nilpotent in a simple one", Tables.simple().nilpotencyIndex(5), 3);
+        LieAlgebra longest = Tables.table(3, 5, "[0,1]=e2;[0,2]=e3;[0,3]=e4;[0,4]=0;");
         due("22 longest", longest.nilpotencyIndex(1), 4);
-        due("22 n = 1", abelian(5, 1).nilpotencyIndex(3), 1);
-        LieAlgebra turn = table(3, 3, "[0,1]=e2;[0,2]=-e1;");
+        due("22 n = 1", Tables.abelian(5, 1).nilpotencyIndex(3), 1);
+        LieAlgebra turn = Tables.table(3, 3, "[0,1]=e2;[0,2]=-e1;");
         due("22 a turn", turn.nilpotencyIndex(1), NONE);
-        LieAlgebra two = table(3, 3, "[0,1]=e1+e2;[0,2]=-e1-e2;");
+        LieAlgebra two = Tables.table(3, 3, "[0,1]=e1+e2;[0,2]=-e1-e2;");
         due("22 square 0", two.nilpotencyIndex(1), 2);
     }
 
     private void promise23() {
-        LieAlgebra x = simple();
+        LieAlgebra x = Tables.simple();
         due("23 h, h", x.killing(1, 1), 3);
         due("23 e, f", x.killing(5, 25), 4);
         due("23 f, e", x.killing(25, 5), 4);
@@ -656,31 +607,31 @@ public final class PromiseTest {
         due("23 v below", x.killing(0, -1), BAD);
         due("23 v above", x.killing(0, 125), BAD);
         due("23 far", x.killing(MOST, LEAST), BAD);
-        due("23 solvable", solvable().killing(1, 1), 0);
-        due("23 1 + 4 modulo 7", table(7, 3, "[0,1]=e1;[0,2]=2e2;").killing(1, 1), 5);
+        due("23 solvable", Tables.solvable().killing(1, 1), 0);
+        due("23 1 + 4 modulo 7", Tables.table(7, 3, "[0,1]=e1;[0,2]=2e2;").killing(1, 1), 5);
     }
 
     private void promise24() {
-        due("24 simple", simple().killingRadicalDimension(), 0);
-        due("24 nilpotent", chain(3).killingRadicalDimension(), 4);
-        due("24 one", table(5, 2, "[0,1]=e1;").killingRadicalDimension(), 1);
-        due("24 1 + 4 is 0 modulo 5", solvable().killingRadicalDimension(), 3);
-        due("24 1 + 4 modulo 7", table(7, 3, "[0,1]=e1;[0,2]=2e2;").killingRadicalDimension(), 2);
-        due("24 and one more", table(3, 4, "[0,1]=e2;[1,2]=e0;[2,0]=e1;").killingRadicalDimension(), 1);
-        due("24 n = 1", abelian(2, 1).killingRadicalDimension(), 1);
+        due("24 simple", Tables.simple().killingRadicalDimension(), 0);
+        due("24 nilpotent", Tables.chain(3).killingRadicalDimension(), 4);
+        due("24 one", Tables.table(5, 2, "[0,1]=e1;").killingRadicalDimension(), 1);
+        due("24 1 + 4 is 0 modulo 5", Tables.solvable().killingRadicalDimension(), 3);
+        due("24 1 + 4 modulo 7", Tables.table(7, 3, "[0,1]=e1;[0,2]=2e2;").killingRadicalDimension(), 2);
+        due("24 and one more", Tables.table(3, 4, "[0,1]=e2;[1,2]=e0;[2,0]=e1;").killingRadicalDimension(), 1);
+        due("24 n = 1", Tables.abelian(2, 1).killingRadicalDimension(), 1);
     }
 
     private void promise25() {
         for (int n = 1; n <= 5; n++) {
-            due("25 abelian", abelian(7, n).derivationDimension(), n * n);
+            due("25 abelian", Tables.abelian(7, n).derivationDimension(), n * n);
         }
-        due("25 simple", simple().derivationDimension(), 3);
-        due("25 heisenberg", heisenberg(7).derivationDimension(), 6);
-        due("25 heisenberg modulo 2", heisenberg(2).derivationDimension(), 6);
-        due("25 two", table(5, 2, "[0,1]=e1;").derivationDimension(), 2);
-        due("25 chain", chain(5).derivationDimension(), 7);
-        LieAlgebra x = simple();
-        LieAlgebra y = chain(7);
+        due("25 simple", Tables.simple().derivationDimension(), 3);
+        due("25 heisenberg", Tables.heisenberg(7).derivationDimension(), 6);
+        due("25 heisenberg modulo 2", Tables.heisenberg(2).derivationDimension(), 6);
+        due("25 two", Tables.table(5, 2, "[0,1]=e1;").derivationDimension(), 2);
+        due("25 chain", Tables.chain(5).derivationDimension(), 7);
+        LieAlgebra x = Tables.simple();
+        LieAlgebra y = Tables.chain(7);
         for (int c = 1; c <= 4; c++) {
             x.addBasis(0, 1, c);
             x.addBasis(1, 2, c);
@@ -691,18 +642,18 @@ public final class PromiseTest {
             due("25 simple, in another basis", x.derivationDimension(), 3);
             due("25 chain, in another basis", y.derivationDimension(), 7);
         }
-        LieAlgebra z = table(7, 3, "[0,1]=2e1;[0,2]=-2e2;[1,2]=e1;");
+        LieAlgebra z = Tables.table(7, 3, "[0,1]=2e1;[0,2]=-2e2;[1,2]=e1;");
         due("25 a table that is not valid", z.jacobiFailure(), 12);
         due("25 e1 to e1, and e2 to e1 with e0 to -4e1", z.derivationDimension(), 2);
     }
 
     private void promise26() {
-        LieAlgebra x = table(5, 2, "[0,1]=e1;");
+        LieAlgebra x = Tables.table(5, 2, "[0,1]=e1;");
         due("26 stays", x.addBasis(0, 1, 2), 5);
         due("26 e1 + 3 e0", x.addBasis(1, 0, 3), 3 + 4 * 5);
         due("26 bracket", x.bracket(1, 5), 7);
         due("26 the other order", x.addBasis(1, 0, 4), x.bracket(5, 1));
-        LieAlgebra y = simple();
+        LieAlgebra y = Tables.simple();
         due("26 h + 2e", y.addBasis(0, 1, 2), 10);
         due("26 [h + 2e, f] = 2h - 2f", y.bracket(1, 25), 2 + 1 * 5 + 3 * 25);
         due("26 [e, f] = h", y.bracket(5, 25), 1 + 3 * 5);
@@ -719,12 +670,12 @@ public final class PromiseTest {
         due("26 j below", y.addBasis(1, -1, 1), BAD);
         due("26 j above", y.addBasis(1, 3, 1), BAD);
         due("26 errors change nothing", y.bracket(1, 5), 10);
-        due("26 n = 1", abelian(3, 1).addBasis(0, 0, 1), BAD);
-        due("26 modulo 2, c = 2", heisenberg(2).addBasis(0, 1, 2), BAD);
+        due("26 n = 1", Tables.abelian(3, 1).addBasis(0, 0, 1), BAD);
+        due("26 modulo 2, c = 2", Tables.heisenberg(2).addBasis(0, 1, 2), BAD);
     }
 
     private void promise27() {
-        LieAlgebra x = simple();
+        LieAlgebra x = Tables.simple();
         due("27 six pairs", x.scaleBasis(0, 2), 6);
         due("27 [2h, e]", x.bracket(1, 5), 20);
         due("27 [e, f] = 3 (2h)", x.bracket(5, 25), 3);
@@ -738,20 +689,20 @@ public final class PromiseTest {
         due("27 i below", x.scaleBasis(-1, 1), BAD);
         due("27 i above", x.scaleBasis(3, 1), BAD);
         due("27 far", x.scaleBasis(MOST, LEAST), BAD);
-        due("27 no pair", abelian(3, 5).scaleBasis(4, 2), 0);
-        due("27 two pairs", heisenberg(3).scaleBasis(0, 2), 2);
-        due("27 four pairs", chain(7).scaleBasis(3, 6), 4);
-        due("27 n = 1", abelian(7, 1).scaleBasis(0, 6), 0);
+        due("27 no pair", Tables.abelian(3, 5).scaleBasis(4, 2), 0);
+        due("27 two pairs", Tables.heisenberg(3).scaleBasis(0, 2), 2);
+        due("27 four pairs", Tables.chain(7).scaleBasis(3, 6), 4);
+        due("27 n = 1", Tables.abelian(7, 1).scaleBasis(0, 6), 0);
         int[] inverses = {0, 1, 4, 5, 2, 3, 6};
         for (int c = 1; c < 7; c++) {
-            LieAlgebra y = heisenberg(7);
+            LieAlgebra y = Tables.heisenberg(7);
             due("27 c e2", y.scaleBasis(2, c), 2);
             due("27 1/c", y.bracket(1, 7), 49 * inverses[c]);
         }
     }
 
     private void promise28() {
-        LieAlgebra x = table(5, 3, "[0,1]=2e0+3e1+4e2;[0,2]=e1;");
+        LieAlgebra x = Tables.table(5, 3, "[0,1]=2e0+3e1+4e2;[0,2]=e1;");
         due("28 [e1, e0] in the new basis", x.swapBasis(0, 1), 2 + 3 * 5 + 1 * 25);
         due("28 [f1, f2] = f0", x.bracket(5, 25), 1);
         due("28 [f0, f2]", x.bracket(1, 25), 0);
@@ -764,8 +715,8 @@ public final class PromiseTest {
         due("28 j above", x.swapBasis(1, 3), BAD);
         due("28 far", x.swapBasis(MOST, LEAST), BAD);
         due("28 errors change nothing", x.bracket(1, 5), 2 + 3 * 5 + 4 * 25);
-        due("28 n = 1", abelian(3, 1).swapBasis(0, 0), BAD);
-        due("28 swaps the ends", heisenberg(3).swapBasis(0, 2), 0);
+        due("28 n = 1", Tables.abelian(3, 1).swapBasis(0, 0), BAD);
+        due("28 swaps the ends", Tables.heisenberg(3).swapBasis(0, 2), 0);
     }
 
     private void promise29() {
@@ -796,7 +747,7 @@ public final class PromiseTest {
     }
 
     private void promise29SavesOnSuccessOnly() {
-        LieAlgebra x = heisenberg(3);
+        LieAlgebra x = Tables.heisenberg(3);
         x.save(0);
         x.restore(0);
         x.configure(4, 1);
@@ -818,7 +769,7 @@ public final class PromiseTest {
         x.addBasis(0, 1, 2);
         x.scaleBasis(0, 2);
         x.swapBasis(0, 2);
-        load(x, "[0,1]=e0;");
+        Tables.load(x, "[0,1]=e0;");
         x.setBracket(0, 1, 1);
         x.configure(3, 3);
         int[] values = {1, 0, 18, 9, 9, 9};
@@ -866,7 +817,7 @@ public final class PromiseTest {
         due("31 still empty", x.restore(1), STATE);
         due("31 errors keep undo", x.undo(), 1);
         x.configure(2, 1);
-        write(x, "abc");
+        Tables.write(x, "abc");
         due("31 dimension afterwards", x.restore(0), 4);
         due("31 prime", x.prime(), 5);
         due("31 bracket", x.bracket(1, 5), 600);
@@ -891,11 +842,11 @@ public final class PromiseTest {
         due("ex 1", x.centerVector(0), 9);
         due("ex 1", x.nilpotencyIndex(1), 2);
         x = new LieAlgebra();
-        due("ex 2", load(x, "[0,1]=e2;"), 1);
+        due("ex 2", Tables.load(x, "[0,1]=e2;"), 1);
         due("ex 2", x.bracket(1, 3), 9);
         due("ex 2", x.lowerCentralDimension(1), 1);
         x = new LieAlgebra();
-        due("ex 3", load(x, "[0,0]=0;"), -13);
+        due("ex 3", Tables.load(x, "[0,0]=0;"), -13);
         due("ex 3", x.clearText(), 8);
         due("ex 3", x.undo(), -2);
         x = new LieAlgebra();
