@@ -458,8 +458,10 @@ public final class LieAlgebra {
             return index >= 0 && index < cells.length ? cells[index] : 0;
         }
 
+        // Does not ask cell(): it stands at the end of the longest chain of calls.
         private boolean hasLead(int column) {
-            return cell(column, column) != 0;
+            int index = column * columns + column;
+            return index >= 0 && index < cells.length && cells[index] != 0;
         }
 
         /** Adds x to a coordinate of the vector that comes in. */

@@ -48,7 +48,6 @@ public final class PromiseTest {
         t.promise29SavesOnSuccessOnly();
         t.promise30();
         t.promise31();
-        t.examples();
         t.check.end();
     }
 
@@ -829,39 +828,5 @@ public final class PromiseTest {
         due("31 the slot is kept", x.restore(0), 4);
         due("31 unchanged", x.bracket(1, 5), 600);
         due("31 discards again", x.undo(), STATE);
-    }
-
-    private void examples() {
-        LieAlgebra x = new LieAlgebra();
-        due("ex 1", x.setBracket(0, 1, 9), 0);
-        due("ex 1", x.bracket(1, 3), 9);
-        due("ex 1", x.bracket(3, 1), 18);
-        due("ex 1", x.bracket(4, 3), 9);
-        due("ex 1", x.kind(), 2);
-        due("ex 1", x.centerDimension(), 1);
-        due("ex 1", x.centerVector(0), 9);
-        due("ex 1", x.nilpotencyIndex(1), 2);
-        x = new LieAlgebra();
-        due("ex 2", Tables.load(x, "[0,1]=e2;"), 1);
-        due("ex 2", x.bracket(1, 3), 9);
-        due("ex 2", x.lowerCentralDimension(1), 1);
-        x = new LieAlgebra();
-        due("ex 3", Tables.load(x, "[0,0]=0;"), -13);
-        due("ex 3", x.clearText(), 8);
-        due("ex 3", x.undo(), -2);
-        x = new LieAlgebra();
-        due("ex 4", x.configure(5, 2), 25);
-        due("ex 4", x.setBracket(0, 1, 5), 0);
-        due("ex 4", x.kind(), 1);
-        due("ex 4", x.killing(1, 1), 1);
-        due("ex 4", x.addBasis(0, 1, 2), 5);
-        due("ex 4", x.bracket(1, 5), 5);
-        due("ex 4", x.derivationDimension(), 2);
-        x = new LieAlgebra();
-        due("ex 5", x.setBracket(0, 1, 1), 0);
-        due("ex 5", x.setBracket(1, 2, 3), 0);
-        due("ex 5", x.setBracket(0, 2, 9), 0);
-        due("ex 5", x.jacobiFailure(), 12);
-        due("ex 5", x.setBracket(0, 2, 27), -1);
     }
 }

@@ -1,79 +1,76 @@
 import java.io.IOException;
 import java.lang.management.ManagementFactory;
-import java.lang.reflect.Constructor;
 import java.lang.reflect.Field;
 import java.lang.reflect.Method;
 import java.lang.reflect.Modifier;
 import java.nio.file.Files;
 import java.nio.file.Path;
+import java.util.ArrayList;
+import java.util.HashSet;
+import java.util.List;
 import java.util.Set;
-import java.util.TreeSet;
 import java.util.regex.Matcher;
 import java.util.regex.Pattern;
 
-/** The face of the class, what LANGUAGE.md rules out, and the room that calls take. */
+/** What LANGUAGE.md rules out, the bounds that it sets, and the room that calls take. */
 public final class RulesTest {
-    private static final String FACE = "addBasis/3 adjointEntry/3 append/1 bracket/2 centerDimension/0 centerVector/1"
-            + " centralizerDimension/1 clearText/0 configure/2 derivationDimension/0 derivedDimension/1"
-            + " derivedVector/2 dimension/0 idealDimension/1 jacobiFailure/0 killing/2 killingRadicalDimension/0 kind/0"
-            + " loadText/0 lowerCentralDimension/1 nilpotencyIndex/1 prime/0 restore/1 save/1 scaleBasis/2"
-            + " setBracket/3 subalgebraDimension/2 subalgebraVector/3 swapBasis/2 undo/0";
     private static final String[] RULED_OUT = {
         "\\bthrow\\b", "\\bthrows\\b", "\\btry\\b", "\\bcatch\\b", "\\bfinally\\b", "\\bsynchronized\\b",
         "\\bassert\\b", "->", "::", "\\bObject\\b", "\\bpackage\\b", "\\bnull\\b", "\\bequals\\b", "\\bhashCode\\b",
         "\\btoString\\b", "Exact\\b", "\\bThread\\b", "\\bRandom\\b", "nanoTime", "currentTimeMillis", "\"", "@",
         "\\bprotected\\b", "\\bnative\\b", "\\btransient\\b", "\\bvolatile\\b", "\\bdouble\\b", "\\bfloat\\b"};
     private static final int MOST_LINES = 60;
+    private static final int MOST_DEEP = 8;
 
     private final Check check = new Check();
 
     public static void main(String[] args) throws IOException {
         RulesTest t = new RulesTest();
-        t.face();
-        String source = Files.readString(Path.of("src/main/java/LieAlgebra.java"));
+        t.inside();
+        Path file = Path.of("src/main/java/LieAlgebra.java");
+        String source = Files.readString(file);
         t.words(withoutComments(source));
         t.methods(withoutComments(source));
+        t.depth(CallTree.of(file).longestChain());
         t.room();
         t.check.end();
     }
 
-    private void face() {
-        Class<?> face = LieAlgebra.class;
-        check.dueTrue("public and final", Modifier.isPublic(face.getModifiers()) && Modifier.isFinal(face.getModifiers()));
-        Set<String> methods = new TreeSet<>();
-        for (Method m : face.getDeclaredMethods()) {
-            if (Modifier.isPrivate(m.getModifiers())) {
-                continue;
-            }
-            methods.add(m.getName() + "/" + m.getParameterCount());
-            check.dueTrue(m + " is public, of the object and int",
-                    Modifier.isPublic(m.getModifiers()) && !Modifier.isStatic(m.getModifiers())
-                            && m.getReturnType() == int.class);
-            for (Class<?> type : m.getParameterTypes()) {
-                check.dueTrue(m + " takes int", type == int.class);
+    /** The public face itself is compared in DocumentTest; here is what stands behind it. */
+    private void inside() {
+        Set<String> face = new HashSet<>();
+        for (Method m : LieAlgebra.class.getDeclaredMethods()) {
+            if (Modifier.isPublic(m.getModifiers())) {
+                face.add(m.getName());
             }
         }
-        check.dueTrue("the methods are " + methods, String.join(" ", methods).equals(FACE));
-        Set<String> constants = new TreeSet<>();
-        for (Field f : face.getDeclaredFields()) {
-            if (!Modifier.isPrivate(f.getModifiers())) {
-                constants.add(f.getName());
-                check.dueTrue(f + " is a public constant", Modifier.isPublic(f.getModifiers())
-                        && Modifier.isStatic(f.getModifiers()) && Modifier.isFinal(f.getModifiers()));
+        List<Class<?>> classes = new ArrayList<>(List.of(LieAlgebra.class.getDeclaredClasses()));
+        for (Class<?> c : classes) {
+            check.dueTrue(c + " is private and static", Modifier.isPrivate(c.getModifiers())
+                    && Modifier.isStatic(c.getModifiers()));
+            check.due("classes inside " + c, c.getDeclaredClasses().length, 0);
+        }
+        classes.add(LieAlgebra.class);
+        for (Class<?> c : classes) {
+            for (Method m : c.getDeclaredMethods()) {
+                check.dueTrue(m + " does not bear the name of a public method",
+                        Modifier.isPublic(m.getModifiers()) || !face.contains(m.getName()));
+            }
+            fields(c);
+        }
+    }
+
+    /** Some twenty fields beside the constants, and no static state. */
+    private void fields(Class<?> c) {
+        int own = 0;
+        for (Field f : c.getDeclaredFields()) {
+            if (Modifier.isStatic(f.getModifiers())) {
+                check.dueTrue(f + " is a constant", Modifier.isFinal(f.getModifiers()) && f.getType() == int.class);
+            } else {
+                own++;
             }
         }
-        check.dueTrue("the constants are " + constants, String.join(" ", constants)
-                .equals("CAPACITY_EXCEEDED ILLEGAL_STATE INVALID_ARGUMENT NONE"));
-        Constructor<?>[] constructors = face.getDeclaredConstructors();
-        check.due("constructors", constructors.length, 1);
-        check.due("parameters of the constructor", constructors[0].getParameterCount(), 0);
-        for (Class<?> inside : face.getDeclaredClasses()) {
-            check.dueTrue(inside + " is private and static", Modifier.isPrivate(inside.getModifiers())
-                    && Modifier.isStatic(inside.getModifiers()));
-            for (Method m : inside.getDeclaredMethods()) {
-                check.dueTrue(m + " does not bear the name of a public method", !FACE.contains(m.getName() + "/"));
-            }
-        }
+        check.dueTrue("fields of " + c, own <= 20);
     }
 
     private static String withoutComments(String source) {
@@ -110,6 +107,12 @@ public final class RulesTest {
             check.dueTrue("parameters of " + heads.group().split("\n")[0], heads.group(2).split(",").length <= 7);
         }
         check.dueTrue("methods were found: " + found, found > 60);
+    }
+
+    /** No recursion (CallTree ends at one), and at most eight calls open at once. */
+    private void depth(List<String> chain) {
+        check.dueTrue("a chain of calls was found: " + chain, chain.size() > 3);
+        check.dueTrue("this chain of calls is at most " + MOST_DEEP + " deep: " + chain, chain.size() <= MOST_DEEP);
     }
 
     /** The bytes that a thread has been given are counted by the machine; calls may ask for none. */
